@@ -245,12 +245,12 @@ public final class AcyclicJoins {
     }
 
     /**
-     * How many answers agree with the code in their first n columns.
+     * How many answers agree with the code in their first n columns, n from 1 to 5.
      * The code's lowest digit is the column that the order looks at first, so the
      * answers that share a beginning are those that share the code's low digits.
      */
     private int agreeing(int code, int n) {
-        int p = n > 0 ? digit(code, 0) : ANY;
+        int p = digit(code, 0);
         int q = n > 1 ? digit(code, 1) : ANY;
         int r = n > 2 ? digit(code, 2) : ANY;
         int s = n > 3 ? digit(code, 3) : ANY;

@@ -6,7 +6,9 @@ import java.nio.file.Files;
 import java.nio.file.Path;
 import java.util.Arrays;
 import java.util.List;
+import java.util.Map;
 import java.util.Set;
+import java.util.TreeMap;
 import java.util.TreeSet;
 import java.util.regex.Matcher;
 import java.util.regex.Pattern;
@@ -20,33 +22,34 @@ public final class FaceTest {
             "int weight(int, int, int)", "int gain(int, int, int)", "int values(int)",
             "int with(int, int)", "int ends()", "int sum()"));
     private static final Set<String> CONSTANTS = new TreeSet<>(List.of("int BAD_ARG", "int FULL", "int NONE"));
+    private static final int MOST_DEPTH = 6;
+    private static final Pattern METHOD =
+            Pattern.compile("(?ms)^    (?:public|private)(?: static)? \\w+ (\\w+)\\([^)]*\\) \\{$(.*?)^    \\}$");
+    private static final Pattern CALL = Pattern.compile("\\b(\\w+)\\(");
+    private static final Pattern NESTED_CALL =
+            Pattern.compile("\\b(?!(?:if|for|while|switch|return)\\b)\\w+\\([^(){};]*\\b\\w+\\(");
     private static final Pattern RULED_OUT = Pattern.compile("\\b(package|import|float|double|String|Math|Integer"
             + "|Long|System|Arrays|Object|throw|throws|try|catch|finally|synchronized|assert|instanceof|null"
             + "|interface|enum|record|protected|getClass|hashCode|equals|toString)\\b|->|::|\"|\\]\\s*\\[");
 
-    private static int wrong = 0;
-
     public static void main(String[] args) throws IOException {
+        String source = Files.readString(SOURCE).replaceAll("(?s)/\\*.*?\\*/", "").replaceAll("//[^\n]*", "");
+        Checks.sentence("The public face, and rules 1, 2, 4 and 5", FaceTest::face);
+        Checks.sentence("LANGUAGE.md, rules 2, 3 and 6", () -> words(source));
+        Checks.sentence("LANGUAGE.md, rule 4", () -> arrays(source));
+        Checks.sentence("LANGUAGE.md, rules 8 and 10", () -> calls(source));
+        Checks.end();
+    }
+
+    private static void face() {
         Class<?> type = AcyclicJoins.class;
-        check("the class is public and final", type.getModifiers() == (Modifier.PUBLIC | Modifier.FINAL));
-        check("no nested classes", type.getDeclaredClasses().length == 0);
-        check("extends nothing", type.getSuperclass() == Object.class && type.getInterfaces().length == 0);
-        check("one constructor, public, without arguments", type.getDeclaredConstructors().length == 1
+        Checks.holds("the class is public and final", type.getModifiers() == (Modifier.PUBLIC | Modifier.FINAL));
+        Checks.holds("no nested classes", type.getDeclaredClasses().length == 0);
+        Checks.holds("extends nothing", type.getSuperclass() == Object.class && type.getInterfaces().length == 0);
+        Checks.holds("one constructor, public, without arguments", type.getDeclaredConstructors().length == 1
                 && type.getConstructors().length == 1 && type.getConstructors()[0].getParameterCount() == 0);
         methods(type);
         fields(type);
-        source();
-        System.out.println(wrong == 0 ? "the face is as due" : wrong + " things are not as due");
-        if (wrong != 0) {
-            System.exit(1);
-        }
-    }
-
-    private static void check(String what, boolean holds) {
-        if (!holds) {
-            wrong++;
-            System.out.println("not so: " + what);
-        }
     }
 
     private static void methods(Class<?> type) {
@@ -54,19 +57,19 @@ public final class FaceTest {
         Set<String> publicNames = new TreeSet<>();
         for (Method m : type.getDeclaredMethods()) {
             if (!Modifier.isPrivate(m.getModifiers())) {
-                check(m + " is public and not static", m.getModifiers() == Modifier.PUBLIC);
+                Checks.holds(m + " is public and not static", m.getModifiers() == Modifier.PUBLIC);
                 String arguments = Arrays.toString(m.getParameterTypes());
                 seen.add(m.getReturnType() + " " + m.getName()
                         + "(" + arguments.substring(1, arguments.length() - 1) + ")");
                 publicNames.add(m.getName());
             }
         }
-        check("public methods are " + FACE + ", found " + seen, seen.equals(FACE));
+        Checks.holds("public methods are " + FACE + ", found " + seen, seen.equals(FACE));
         for (Method m : type.getDeclaredMethods()) {
-            check(m + " has at most seven parameters", m.getParameterCount() <= 7);
-            check(m + " answers no array", !m.getReturnType().isArray());
+            Checks.holds(m + " has at most seven parameters", m.getParameterCount() <= 7);
+            Checks.holds(m + " answers no array", !m.getReturnType().isArray());
             if (Modifier.isPrivate(m.getModifiers())) {
-                check(m + " bears no public name", !publicNames.contains(m.getName()));
+                Checks.holds(m + " bears no public name", !publicNames.contains(m.getName()));
             }
         }
     }
@@ -76,26 +79,73 @@ public final class FaceTest {
         for (Field f : type.getDeclaredFields()) {
             Class<?> of = f.getType();
             Class<?> item = of.isArray() ? of.getComponentType() : of;
-            check(f + " is of a plain type",
+            Checks.holds(f + " is of a plain type",
                     item.isPrimitive() && item != float.class && item != double.class);
             if (Modifier.isStatic(f.getModifiers())) {
-                check(f + " is a constant of int or long",
+                Checks.holds(f + " is a constant of int or long",
                         Modifier.isFinal(f.getModifiers()) && (of == int.class || of == long.class));
             }
             if (!Modifier.isPrivate(f.getModifiers())) {
-                check(f + " is a public constant",
+                Checks.holds(f + " is a public constant",
                         f.getModifiers() == (Modifier.PUBLIC | Modifier.STATIC | Modifier.FINAL));
                 seen.add(of + " " + f.getName());
             }
         }
-        check("public constants are " + CONSTANTS + ", found " + seen, seen.equals(CONSTANTS));
+        Checks.holds("public constants are " + CONSTANTS + ", found " + seen, seen.equals(CONSTANTS));
     }
 
-    private static void source() throws IOException {
-        String code = Files.readString(SOURCE).replaceAll("(?s)/\\*.*?\\*/", "").replaceAll("//[^\n]*", "");
-        Matcher m = RULED_OUT.matcher(code);
+    private static void words(String source) {
+        Matcher m = RULED_OUT.matcher(source);
         while (m.find()) {
-            check("the source does without " + m.group(), false);
+            Checks.holds("the source does without " + m.group(), false);
         }
+    }
+
+    private static void arrays(String source) {
+        String rest = source.replaceAll("(?m)^    private final \\w+\\[\\] \\w+ = new \\w+\\[\\w+\\];$", "");
+        Checks.holds("arrays are made in the fields' initialisers alone", !rest.matches("(?s).*\\bnew\\b.*"));
+    }
+
+    private static void calls(String source) {
+        Matcher nested = NESTED_CALL.matcher(source);
+        while (nested.find()) {
+            Checks.holds("no call stands inside the arguments of another: " + nested.group(), false);
+        }
+        Map<String, Set<String>> callees = callees(source);
+        Checks.holds("the methods are found in the source", callees.keySet().containsAll(Set.of("put", "sum", "rank")));
+        for (String name : callees.keySet()) {
+            Checks.holds(name + " goes at most six calls deep", depth(name, callees, 0) <= MOST_DEPTH);
+        }
+    }
+
+    /** The methods that each method of the source calls. */
+    private static Map<String, Set<String>> callees(String source) {
+        Map<String, String> bodies = new TreeMap<>();
+        Matcher method = METHOD.matcher(source);
+        while (method.find()) {
+            bodies.put(method.group(1), method.group(2));
+        }
+        Map<String, Set<String>> callees = new TreeMap<>();
+        for (String name : bodies.keySet()) {
+            Set<String> called = new TreeSet<>();
+            Matcher call = CALL.matcher(bodies.get(name));
+            while (call.find()) {
+                called.add(call.group(1));
+            }
+            called.retainAll(bodies.keySet());
+            callees.put(name, called);
+        }
+        return callees;
+    }
+
+    // A method that calls itself, on whatever way, is deeper than any limit.
+    private static int depth(String name, Map<String, Set<String>> callees, int above) {
+        int deepest = 0;
+        if (above <= MOST_DEPTH) {
+            for (String callee : callees.get(name)) {
+                deepest = Math.max(deepest, depth(callee, callees, above + 1));
+            }
+        }
+        return 1 + deepest;
     }
 }
