@@ -236,12 +236,12 @@ public final class AcyclicJoins {
         return (code >> 3 * c) & (VALUES - 1);
     }
 
-    private static int lowest(int v) {
+    private static int from(int v) {
         return v == ANY ? 0 : v;
     }
 
-    private static int highest(int v) {
-        return v == ANY ? VALUES - 1 : v;
+    private static int until(int v) {
+        return v == ANY ? VALUES : v + 1;
     }
 
     /**
@@ -265,11 +265,11 @@ public final class AcyclicJoins {
      */
     private int matching(int p, int q, int r, int s, int t) {
         int n = 0;
-        int lastQ = highest(q);
-        int lastR = highest(r);
-        for (int y = lowest(q); y <= lastQ; y++) {
+        int endQ = until(q);
+        int endR = until(r);
+        for (int y = from(q); y < endQ; y++) {
             int beside = fitting(0, p, y) * fitting(3, y, t);
-            for (int z = lowest(r); z <= lastR; z++) {
+            for (int z = from(r); z < endR; z++) {
                 n += beside * fitting(1, y, z) * fitting(2, z, s);
             }
         }
@@ -279,10 +279,10 @@ public final class AcyclicJoins {
     /** How many rows of table i have these values, where ANY leaves a column free. */
     private int fitting(int i, int a, int b) {
         int n = 0;
-        int lastA = highest(a);
-        int lastB = highest(b);
-        for (int x = lowest(a); x <= lastA; x++) {
-            for (int y = lowest(b); y <= lastB; y++) {
+        int endA = until(a);
+        int endB = until(b);
+        for (int x = from(a); x < endA; x++) {
+            for (int y = from(b); y < endB; y++) {
                 if (held[cellOf(i, x, y)]) {
                     n++;
                 }

@@ -5,12 +5,31 @@ final class Checks {
     static final int NONE = -4;
 
     private static final int MOST_SHOWN = 5;
+    // Far more than a test takes on a slow machine.
+    private static final long MOST_MILLIS = 300_000;
 
-    private static String sentence = "";
+    private static volatile String sentence = "";
     private static int shown = 0;
     private static int wrong = 0;
 
+    static {
+        Thread watch = new Thread(Checks::endTooLong);
+        watch.setDaemon(true);
+        watch.start();
+    }
+
     private Checks() {
+    }
+
+    // A call that never ends is a fault to be told, not a test that hangs.
+    private static void endTooLong() {
+        try {
+            Thread.sleep(MOST_MILLIS);
+        } catch (InterruptedException e) {
+            return;
+        }
+        System.out.println(sentence + " | does not end");
+        Runtime.getRuntime().halt(1);
     }
 
     /** Runs the test of one sentence; a call that throws is one wrong answer, and the next test still runs. */

@@ -23,11 +23,17 @@ public final class FaceTest {
             "int with(int, int)", "int ends()", "int sum()"));
     private static final Set<String> CONSTANTS = new TreeSet<>(List.of("int BAD_ARG", "int FULL", "int NONE"));
     private static final int MOST_DEPTH = 6;
+    private static final int MOST_LINES = 60;
+    private static final int MOST_FIELDS = 40;
     private static final Pattern METHOD =
             Pattern.compile("(?ms)^    (?:public|private)(?: static)? \\w+ (\\w+)\\([^)]*\\) \\{$(.*?)^    \\}$");
     private static final Pattern CALL = Pattern.compile("\\b(\\w+)\\(");
     private static final Pattern NESTED_CALL =
             Pattern.compile("\\b(?!(?:if|for|while|switch|return)\\b)\\w+\\([^(){};]*\\b\\w+\\(");
+    // With < the loop ends whatever the bound is; <= would not at the greatest int.
+    private static final Pattern LOOP =
+            Pattern.compile("\\bfor \\(int (\\w+) = [^;]+; \\1 < (\\w+); \\1\\+\\+\\) \\{");
+    private static final Pattern LOOP_WORD = Pattern.compile("\\b(for|while|do)\\b");
     private static final Pattern RULED_OUT = Pattern.compile("\\b(package|import|float|double|String|Math|Integer"
             + "|Long|System|Arrays|Object|throw|throws|try|catch|finally|synchronized|assert|instanceof|null"
             + "|interface|enum|record|protected|getClass|hashCode|equals|toString)\\b|->|::|\"|\\]\\s*\\[");
@@ -37,7 +43,9 @@ public final class FaceTest {
         Checks.sentence("The public face, and rules 1, 2, 4 and 5", FaceTest::face);
         Checks.sentence("LANGUAGE.md, rules 2, 3 and 6", () -> words(source));
         Checks.sentence("LANGUAGE.md, rule 4", () -> arrays(source));
-        Checks.sentence("LANGUAGE.md, rules 8 and 10", () -> calls(source));
+        Checks.sentence("LANGUAGE.md, rules 7 and 8: every loop ends", () -> loops(source));
+        Checks.sentence("LANGUAGE.md, rules 8 and 10: calls", () -> calls(source));
+        Checks.sentence("LANGUAGE.md, rule 10: methods stay short", () -> lengths(source));
         Checks.end();
     }
 
@@ -76,6 +84,8 @@ public final class FaceTest {
 
     private static void fields(Class<?> type) {
         Set<String> seen = new TreeSet<>();
+        Checks.holds("at most " + MOST_FIELDS + " fields beside the constants", Arrays.stream(type.getDeclaredFields())
+                .filter(f -> !Modifier.isStatic(f.getModifiers())).count() <= MOST_FIELDS);
         for (Field f : type.getDeclaredFields()) {
             Class<?> of = f.getType();
             Class<?> item = of.isArray() ? of.getComponentType() : of;
@@ -111,20 +121,60 @@ public final class FaceTest {
         while (nested.find()) {
             Checks.holds("no call stands inside the arguments of another: " + nested.group(), false);
         }
-        Map<String, Set<String>> callees = callees(source);
-        Checks.holds("the methods are found in the source", callees.keySet().containsAll(Set.of("put", "sum", "rank")));
+        Map<String, Set<String>> callees = callees(bodies(source));
+        Set<String> declared = new TreeSet<>();
+        for (Method m : AcyclicJoins.class.getDeclaredMethods()) {
+            declared.add(m.getName());
+        }
+        Checks.holds("all methods are found in the source", callees.keySet().equals(declared));
         for (String name : callees.keySet()) {
             Checks.holds(name + " goes at most six calls deep", depth(name, callees, 0) <= MOST_DEPTH);
         }
     }
 
-    /** The methods that each method of the source calls. */
-    private static Map<String, Set<String>> callees(String source) {
+    // A loop counts up to a bound, and neither changes on the way.
+    private static void loops(String source) {
+        for (String body : bodies(source).values()) {
+            Matcher loop = LOOP.matcher(body);
+            int plain = 0;
+            while (loop.find()) {
+                plain++;
+                Checks.due("assignments to the counter of " + loop.group(), assignments(loop.group(1), body),
+                        loopsOver(loop.group(1), body));
+                Checks.holds("the bound stays in " + loop.group(), assignments(loop.group(2), body) <= 1);
+            }
+            Checks.due("loops that are no plain count in:" + body,
+                    (int) LOOP_WORD.matcher(body).results().count() - plain, 0);
+        }
+    }
+
+    // A counter is set and counted up in the head of its loop, and nowhere else.
+    private static int loopsOver(String counter, String body) {
+        return 2 * (int) LOOP.matcher(body).results().filter(m -> m.group(1).equals(counter)).count();
+    }
+
+    private static int assignments(String name, String body) {
+        String change = "(\\+\\+|--)\\s*\\b" + name + "\\b|\\b" + name + "\\s*(\\+\\+|--|(<<|>>>?|[-+*/%&|^])?=(?!=))";
+        return (int) Pattern.compile(change).matcher(body).results().count();
+    }
+
+    private static void lengths(String source) {
+        bodies(source).forEach((name, body) ->
+                Checks.holds(name + " has at most " + MOST_LINES + " lines", body.lines().count() <= MOST_LINES));
+    }
+
+    /** Every method of the source with what stands between its braces. */
+    private static Map<String, String> bodies(String source) {
         Map<String, String> bodies = new TreeMap<>();
         Matcher method = METHOD.matcher(source);
         while (method.find()) {
             bodies.put(method.group(1), method.group(2));
         }
+        return bodies;
+    }
+
+    /** The methods that each method of the source calls. */
+    private static Map<String, Set<String>> callees(Map<String, String> bodies) {
         Map<String, Set<String>> callees = new TreeMap<>();
         for (String name : bodies.keySet()) {
             Set<String> called = new TreeSet<>();
